@@ -825,12 +825,14 @@ public final class CrossedWords {
 
         /** Words that another slot may have when this one has that word, for all that the two slots say. */
         int besides(int slot, int word, int other) {
+            int others = ALL_WORDS & ~(1 << word);
             int place = slots.meeting.get(slot * SLOTS + other);
-            int words = ALL_WORDS;
-            if (place != NONE) {
-                words = index.wordsHaving(slots.meeting.get(other * SLOTS + slot), index.letterOf(word, place));
+            if (place == NONE) {
+                return others;
             }
-            return words & ~(1 << word);
+            int otherPlace = slots.meeting.get(other * SLOTS + slot);
+            int letter = index.letters.get(word * SIDE + place);
+            return others & index.having.get(otherPlace * LETTERS + letter);
         }
 
         int slotsWith(int word, Row words) {
