@@ -854,7 +854,7 @@ public final class CrossedWords {
         private final Row order = new Row(SLOTS);
         private int many;
         /** Of each depth, for each slot in that order: the words that it can have there yet. */
-        private final Row choices = new Row((SLOTS + 1) * SLOTS);
+        private final Row choices = new Row(SLOTS * SLOTS);
         /** Of each depth: the word that its slot has. */
         private final Row chosen = new Row(SLOTS);
 

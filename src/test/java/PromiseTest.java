@@ -1,21 +1,5 @@
 /** Promise by promise: ordinary inputs, the edges that the document names, and wrong inputs. */
-public final class PromiseTest {
-    private static final int NONE = -1, UNKNOWN = -1000000001, OUTSIDE = -1000000002, NOT = -1000000003, FULL = -1000000004;
-    private static final int[] FAR = {-1, -2, 16, 17, 32, Integer.MAX_VALUE, Integer.MIN_VALUE};
-
-    private static final String OPEN = "................";
-    /** Slots: 0 across 0 1; 1 across 4 5; 2 down 0 4; 3 down 1 5. */
-    private static final String SQUARE = "..##..##########";
-    /** Slots: 0 across 0 1; 1 down 0 4. */
-    private static final String CORNER = "..##.###########";
-    /** Slots 0 .. 3 across, of two cells each, none of which cross. */
-    private static final String FOUR_APART = "..####....####..";
-    private static final String THREE_APART = "..####....######";
-    private static final String BLOCKED = "################";
-
-    private static int wrong = 0;
-    private static int promise = 0;
-
+public final class PromiseTest extends Checks {
     public static void main(String[] args) {
         newObject();
         block();
@@ -43,52 +27,11 @@ public final class PromiseTest {
         with();
         keep();
         goBack();
-        if (wrong != 0) System.exit(1);
-    }
-
-    private static void due(String what, int got, int want) {
-        if (got != want) {
-            wrong++;
-            System.out.println("promise " + promise + ": " + what + " answered " + got + ", due is " + want);
-        }
-    }
-
-    private static CrossedWords grid(String cells, String... words) {
-        CrossedWords x = new CrossedWords();
-        for (int cell = 0; cell < 16; cell++) if (cells.charAt(cell) == '#') x.block(cell);
-        for (int cell = 0; cell < 16; cell++) if (cells.charAt(cell) >= 'a') x.letter(cell, cells.charAt(cell));
-        for (String word : words) x.add(code(word));
-        return x;
-    }
-
-    private static int code(String word) {
-        int code = 0;
-        for (char c : word.toCharArray()) code = code * 7 + c - 96;
-        return code;
-    }
-
-    /** The first n of aa, ab, .. af, ba, .. */
-    private static String[] pairs(int n) {
-        String[] words = new String[n];
-        for (int i = 0; i < n; i++) words[i] = "" + (char) ('a' + i / 6) + (char) ('a' + i % 6);
-        return words;
-    }
-
-    private static void dueGrid(String what, CrossedWords x, String cells) {
-        for (int cell = 0; cell < 16; cell++) {
-            char c = cells.charAt(cell);
-            due(what + ": cell(" + cell + ", 0)", x.cell(cell, 0), c == '#' ? NONE : c == '.' ? 0 : c);
-        }
-    }
-
-    private static void dueList(String what, CrossedWords x, String... words) {
-        due(what + ": told(1)", x.told(1), words.length);
-        for (int word = 0; word < words.length; word++) due(what + ": word(" + word + ", 0)", x.word(word, 0), code(words[word]));
-        due(what + ": the word behind the last", x.word(words.length, 0), UNKNOWN);
+        end();
     }
 
     private static void newObject() {
-        promise = 1;
+        about = "promise 1";
         CrossedWords x = new CrossedWords();
         dueGrid("new", x, OPEN);
         dueList("new", x);
@@ -106,7 +49,7 @@ public final class PromiseTest {
     }
 
     private static void block() {
-        promise = 2;
+        about = "promise 2";
         CrossedWords x = new CrossedWords();
         for (int cell : FAR) due("block(" + cell + ")", x.block(cell), UNKNOWN);
         due("told(11)", x.told(11), 0);
@@ -129,7 +72,7 @@ public final class PromiseTest {
     }
 
     private static void open() {
-        promise = 3;
+        about = "promise 3";
         CrossedWords x = grid(BLOCKED);
         for (int cell : FAR) due("open(" + cell + ")", x.open(cell), UNKNOWN);
         due("open(0)", x.open(0), 0);
@@ -150,7 +93,7 @@ public final class PromiseTest {
     }
 
     private static void letter() {
-        promise = 4;
+        about = "promise 4";
         CrossedWords x = grid("#...............");
         int before = x.told(11);
         for (int cell : FAR) {
@@ -176,7 +119,7 @@ public final class PromiseTest {
     }
 
     private static void put() {
-        promise = 5;
+        about = "promise 5";
         CrossedWords x = grid(SQUARE, "ab", "ac", "abc");
         int before = x.told(11);
         for (int far : FAR) {
@@ -206,7 +149,7 @@ public final class PromiseTest {
     }
 
     private static void wipe() {
-        promise = 6;
+        about = "promise 6";
         CrossedWords x = grid("b.#b...........f", "ab");
         due("wipe()", x.wipe(), 3);
         dueGrid("wipe", x, "..#.............");
@@ -217,7 +160,7 @@ public final class PromiseTest {
     }
 
     private static void turn() {
-        promise = 7;
+        about = "promise 7";
         CrossedWords x = grid("a##bc#..d..#e##f", "ab");
         due("told(0)", x.told(0), 5);
         due("turn()", x.turn(), 5);
@@ -234,7 +177,7 @@ public final class PromiseTest {
     }
 
     private static void add() {
-        promise = 8;
+        about = "promise 8";
         CrossedWords x = new CrossedWords();
         int[] none = {7, 0, 1, -1, -8, 14, 21, 42, 49, 50, 56, 63, 343, 350, 392, 399, 406, 2401, 2402, 2744,
             Integer.MAX_VALUE, Integer.MIN_VALUE};
@@ -255,7 +198,7 @@ public final class PromiseTest {
     }
 
     private static void strike() {
-        promise = 9;
+        about = "promise 9";
         CrossedWords x = grid(OPEN, "ab", "abc", "abcd", "cd");
         for (int word : FAR) due("strike(" + word + ")", x.strike(word), UNKNOWN);
         due("strike(4)", x.strike(4), UNKNOWN);
@@ -274,7 +217,7 @@ public final class PromiseTest {
     }
 
     private static void drift() {
-        promise = 10;
+        about = "promise 10";
         CrossedWords x = new CrossedWords();
         int[][] bad = {{0, 1}, {17, 1}, {-1, 1}, {1, 0}, {1, -1}, {1, 1000000}, {0, 0}, {Integer.MAX_VALUE, 1},
             {1, Integer.MIN_VALUE}};
@@ -305,7 +248,7 @@ public final class PromiseTest {
     }
 
     private static void undo() {
-        promise = 11;
+        about = "promise 11";
         CrossedWords x = new CrossedWords();
         due("undo()", x.undo(), NOT);
         for (int i = 0; i < 10; i++) x.block(i);
@@ -350,7 +293,7 @@ public final class PromiseTest {
     }
 
     private static void toldOfTheGrid() {
-        promise = 12;
+        about = "promise 12";
         CrossedWords x = grid("a.#....#..#.#..f", "ab", "abc");
         for (int what : new int[] {-1, 12, 13, Integer.MAX_VALUE, Integer.MIN_VALUE}) due("told(" + what + ")", x.told(what), OUTSIDE);
         due("told(0)", x.told(0), 7);
@@ -441,7 +384,7 @@ public final class PromiseTest {
     }
 
     private static void cell() {
-        promise = 13;
+        about = "promise 13";
         CrossedWords x = grid("a.#....#..#.#..f", "ab", "ac", "afb");
         for (int cell : FAR) {
             due("cell(" + cell + ", 0)", x.cell(cell, 0), UNKNOWN);
@@ -480,7 +423,7 @@ public final class PromiseTest {
     }
 
     private static void slot() {
-        promise = 14;
+        about = "promise 14";
         CrossedWords x = grid("..#....#..#.#...", "ab", "abc", "acb");
         for (int slot : new int[] {-1, 7, 8, 32, Integer.MAX_VALUE, Integer.MIN_VALUE}) {
             due("slot(" + slot + ", 0)", x.slot(slot, 0), UNKNOWN);
@@ -536,7 +479,7 @@ public final class PromiseTest {
     }
 
     private static void word() {
-        promise = 15;
+        about = "promise 15";
         CrossedWords x = grid("ab##..##########", "ab", "abc", "ac", "abcd");
         for (int word : FAR) {
             due("word(" + word + ", 0)", x.word(word, 0), UNKNOWN);
@@ -559,7 +502,7 @@ public final class PromiseTest {
     }
 
     private static void find() {
-        promise = 16;
+        about = "promise 16";
         CrossedWords x = grid(OPEN, "ab", "ffff", "abc");
         for (int code : new int[] {7, 0, -1, 14, 49, 343, 399, 2401, Integer.MAX_VALUE, Integer.MIN_VALUE}) {
             due("find(" + code + ")", x.find(code), OUTSIDE);
@@ -575,7 +518,7 @@ public final class PromiseTest {
     }
 
     private static void odds() {
-        promise = 17;
+        about = "promise 17";
         CrossedWords x = grid(SQUARE, "ab", "ac", "bd", "abc");
         for (int far : FAR) {
             due("odds(" + far + ", 0, 2, 1)", x.odds(far, 0, 2, 1), UNKNOWN);
@@ -601,7 +544,7 @@ public final class PromiseTest {
     }
 
     private static void with() {
-        promise = 18;
+        about = "promise 18";
         CrossedWords x = grid(CORNER, "ab", "ac", "bd", "abc", "ad");
         for (int far : FAR) {
             due("with(" + far + ", 0)", x.with(far, 0), UNKNOWN);
@@ -623,7 +566,7 @@ public final class PromiseTest {
     }
 
     private static void keep() {
-        promise = 19;
+        about = "promise 19";
         CrossedWords x = grid("a#..............", "ab", "cd");
         for (int i : new int[] {-1, 2, 3, Integer.MAX_VALUE, Integer.MIN_VALUE}) due("keep(" + i + ")", x.keep(i), UNKNOWN);
         due("told(11), refused", x.told(11), 4);
@@ -643,7 +586,7 @@ public final class PromiseTest {
     }
 
     private static void goBack() {
-        promise = 20;
+        about = "promise 20";
         CrossedWords x = grid("a#..............", "ab", "cd");
         for (int i : new int[] {-1, 2, 3, Integer.MAX_VALUE, Integer.MIN_VALUE}) due("goBack(" + i + ")", x.goBack(i), UNKNOWN);
         due("goBack(0)", x.goBack(0), NOT);
