@@ -4,8 +4,10 @@ import java.util.Random;
 
 /** Long runs of calls, drawn with fixed seeds, on CrossedWords and on PlainModel: like answers are due. */
 public final class ModelTest {
-    private static final int RUNS = 1200;
-    private static final int CALLS = 150;
+    private static final int RUNS = 2400;
+    private static final int CALLS = 220;
+    /** Nothing is promised of an object beyond so many calls. */
+    private static final int MOST_CALLS = 512;
     private static final String[] NAMES = {"block", "open", "letter", "put", "wipe", "turn", "add", "strike", "drift",
         "undo", "told", "cell", "slot", "word", "find", "odds", "with", "keep", "goBack"};
     /** How often each call is drawn, of the sum of all. */
@@ -19,6 +21,7 @@ public final class ModelTest {
     private final PlainModel model = new PlainModel();
     private final List<String> log = new ArrayList<>();
     private final int alphabet;
+    private int calls;
 
     private ModelTest(int seed) {
         random = new Random(seed);
@@ -42,15 +45,22 @@ public final class ModelTest {
         if (wrong != 0 || thin) System.exit(1);
     }
 
+    /** All is asked once, ahead of the calls drawn or behind them: twice would be too many calls. */
     private boolean run(int[] seen) {
+        boolean early = random.nextBoolean();
         if (!begin()) return false;
         note(seen);
-        if (!askAll()) return false;
+        if (early && !askAll()) return false;
         for (int i = 0; i < CALLS; i++) {
             if (!same(drawCall(), 0, 0, 0, -1)) return false;
         }
         note(seen);
-        return askAll();
+        return (early || askAll()) && fewEnough();
+    }
+
+    private boolean fewEnough() {
+        if (calls > MOST_CALLS) log.add("the test is wrong: " + calls + " calls");
+        return calls <= MOST_CALLS;
     }
 
     /** Blocks, few or many, and most of a list: calls drawn one by one seldom come to many fillings. */
@@ -84,6 +94,7 @@ public final class ModelTest {
     }
 
     private void note(int[] seen) {
+        calls += 2;
         int fillings = real.told(8);
         seen[fillings == 0 ? 2 : fillings == 999 ? 1 : 0]++;
         if (real.told(9) > 0) seen[3]++;
@@ -141,6 +152,7 @@ public final class ModelTest {
     private boolean same(int call, int a, int b, int c, int d) {
         int[] p = {a, b, c, d};
         if (d == -1) System.arraycopy(drawArguments(call), 0, p, 0, drawnLength(call));
+        calls++;
         int got = callReal(call, p);
         int due = callModel(call, p);
         log.add(NAMES[call] + java.util.Arrays.toString(java.util.Arrays.copyOf(p, drawnLength(call))) + " answered " + got

@@ -21,6 +21,10 @@ public final class RefusalTest extends Checks {
     private static final int[] WHAT = {MIN, -1, 0, 3, 4, 5, 6, 7, 8, 9, 11, 12, MAX};
 
     private static final int STATES = 7;
+    /** Kinds of questions to look at what is so: told, cell, slot, word. */
+    private static final int KINDS = 4;
+    /** So many calls one behind the other leave enough of an object's 512 to look around. */
+    private static final int LOT = 300;
 
     /** A call: its name, the refusals that the document names for it, and what its arguments are drawn from. */
     private record Call(String name, String refusals, int[]... drawn) { }
@@ -86,9 +90,14 @@ public final class RefusalTest extends Checks {
         return grid(BLOCKED);
     }
 
+    /** Nothing can be undone, and what is so is neither of the images. */
     private static CrossedWords undone() {
-        CrossedWords x = grid("..#..#.a.......#", "ab", "ba", "abab");
-        for (int i = 0; i < 6; i++) x.turn();
+        CrossedWords x = grid("..#..#.a.......#", "ab", "ba");
+        x.keep(0);
+        x.add(code("abab"));
+        x.keep(1);
+        x.block(14);
+        for (int i = 0; i < 10; i++) x.turn();
         for (int i = 0; i < 10; i++) x.undo();
         return x;
     }
@@ -107,26 +116,49 @@ public final class RefusalTest extends Checks {
 
     // ---- all that can be seen
 
-    private static void look(CrossedWords x, List<Integer> seen) {
-        for (int what = 0; what < 12; what++) seen.add(x.told(what));
-        for (int cell = 0; cell < 16; cell++) for (int what = 0; what < 4; what++) seen.add(x.cell(cell, what));
-        for (int slot = 0; slot < x.told(0); slot++) for (int what = 0; what < 8; what++) seen.add(x.slot(slot, what));
-        for (int word = 0; word < x.told(1); word++) for (int what = 0; what < 5; what++) seen.add(x.word(word, what));
+    /** Looks by one kind of question alone, lest the others hide what one of them changes. */
+    private static void look(CrossedWords x, int kind, List<Integer> seen) {
+        int[] many = {1, 16, 8, 16};
+        int[] whats = {12, 4, 8, 5};
+        for (int number = 0; number < many[kind]; number++) {
+            for (int what = 0; what < whats[kind]; what++) seen.add(ask(x, kind, number, what));
+        }
     }
 
-    /** What is so, what undo() leads to, and the images; the object is of no more use then. */
-    private static List<Integer> lookBehind(CrossedWords x) {
-        List<Integer> seen = new ArrayList<>();
-        look(x, seen);
-        for (int i = 0; i < 12; i++) {
-            seen.add(x.undo());
-            look(x, seen);
+    private static int ask(CrossedWords x, int kind, int number, int what) {
+        switch (kind) {
+            case 0: return x.told(what);
+            case 1: return x.cell(number, what);
+            case 2: return x.slot(number, what);
+            default: return x.word(number, what);
         }
-        for (int i = 0; i < 2; i++) {
-            seen.add(x.goBack(i));
-            look(x, seen);
+    }
+
+    /**
+     * What is so in a state behind some calls, what each undo() leads to, and the images. Each is
+     * looked at on an object of its own: none is promised anything beyond its 512th call.
+     */
+    private static List<Integer> lookBehind(int number, Call call, List<int[]> lot) {
+        List<Integer> seen = new ArrayList<>();
+        for (int kind = 0; kind < KINDS; kind++) {
+            for (int back = 0; back <= 11; back++) {
+                CrossedWords x = stateBehind(number, call, lot);
+                for (int i = 0; i < back; i++) seen.add(x.undo());
+                look(x, kind, seen);
+            }
+            for (int i = 0; i < 2; i++) {
+                CrossedWords x = stateBehind(number, call, lot);
+                seen.add(x.goBack(i));
+                look(x, kind, seen);
+            }
         }
         return seen;
+    }
+
+    private static CrossedWords stateBehind(int number, Call call, List<int[]> lot) {
+        CrossedWords x = state(number);
+        for (int[] p : lot) run(x, call.name, p);
+        return x;
     }
 
     // ---- the sweep
@@ -134,38 +166,57 @@ public final class RefusalTest extends Checks {
     private static void sweep(Call call, boolean question) {
         TreeSet<String> seen = new TreeSet<>();
         for (int number = 0; number < STATES; number++) {
-            CrossedWords x = state(number);
-            List<Integer> before = new ArrayList<>();
-            look(x, before);
-            int[] p = new int[4];
-            int combinations = 1;
-            for (int[] drawn : call.drawn) combinations *= drawn.length;
-            for (int i = 0; i < combinations; i++) {
-                int rest = i;
-                for (int k = 0; k < call.drawn.length; k++) {
-                    p[k] = call.drawn[k][rest % call.drawn[k].length];
-                    rest /= call.drawn[k].length;
-                }
-                int answer = run(question ? x : state(number), call.name, p);
-                String text = call.name + Arrays.toString(Arrays.copyOf(p, call.drawn.length)) + " in state " + number;
+            List<int[]> idle = new ArrayList<>();
+            for (int[] p : arguments(call)) {
+                int answer = run(state(number), call.name, p);
                 if (answer < -1) {
                     about = "'REFUSALS'";
-                    due(text + " is one of the four", NAMES.containsKey(answer) ? 1 : 0, 1);
+                    due(text(call, p, number) + " is one of the four", NAMES.containsKey(answer) ? 1 : 0, 1);
                     seen.add(NAMES.getOrDefault(answer, "" + answer));
-                    due(text + ", once more", run(x, call.name, p), answer);
                 }
+                if (answer < -1 || question) idle.add(p);
             }
             about = question ? "a question changes nothing" : "'What is refused changes nothing.'";
-            List<Integer> after = new ArrayList<>();
-            look(x, after);
-            due(call.name + " in state " + number + ", what is so: like", after.equals(before) ? 1 : 0, 1);
-            due(call.name + " in state " + number + ", what was and what is kept: like",
-                lookBehind(x).equals(lookBehind(state(number))) ? 1 : 0, 1);
+            changesNothing(call, number, idle);
         }
         about = "the refusals that the document names";
         TreeSet<String> named = new TreeSet<>(Arrays.asList(call.refusals.split(" ")));
         named.remove("");
         due(call.name + " answers " + seen + ", named are " + named, seen.equals(named) ? 1 : 0, 1);
+    }
+
+    /** All ways to draw the arguments of a call. */
+    private static List<int[]> arguments(Call call) {
+        int ways = 1;
+        for (int[] drawn : call.drawn) ways *= drawn.length;
+        List<int[]> all = new ArrayList<>();
+        for (int i = 0; i < ways; i++) {
+            int[] p = new int[call.drawn.length];
+            int rest = i;
+            for (int k = 0; k < p.length; k++) {
+                p[k] = call.drawn[k][rest % call.drawn[k].length];
+                rest /= call.drawn[k].length;
+            }
+            all.add(p);
+        }
+        return all;
+    }
+
+    private static void changesNothing(Call call, int number, List<int[]> idle) {
+        List<Integer> before = lookBehind(number, call, List.of());
+        for (int start = 0; start < idle.size(); start += LOT) {
+            List<int[]> lot = idle.subList(start, Math.min(start + LOT, idle.size()));
+            CrossedWords x = state(number);
+            for (int[] p : lot) {
+                due(text(call, p, number) + ", behind others", run(x, call.name, p), run(state(number), call.name, p));
+            }
+            due(text(call, lot.get(0), number) + " and on: what is so, what was and what is kept are like",
+                lookBehind(number, call, lot).equals(before) ? 1 : 0, 1);
+        }
+    }
+
+    private static String text(Call call, int[] p, int number) {
+        return call.name + Arrays.toString(p) + " in state " + number;
     }
 
     private static int run(CrossedWords x, String name, int[] p) {

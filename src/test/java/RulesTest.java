@@ -7,6 +7,7 @@ import java.lang.reflect.Modifier;
 import java.nio.file.Files;
 import java.nio.file.Path;
 import java.util.Arrays;
+import java.util.List;
 import java.util.Set;
 import java.util.TreeSet;
 import java.util.regex.Matcher;
@@ -29,6 +30,7 @@ public final class RulesTest {
         constants();
         insides();
         source();
+        methodsAreShort();
         room();
         time();
         if (wrong != 0) System.exit(1);
@@ -114,16 +116,31 @@ public final class RulesTest {
         }
     }
 
+    /** A method begins with a line that ends with ") {" and ends with a brace that stands as far in. */
+    private static void methodsAreShort() throws IOException {
+        List<String> lines = Files.readAllLines(Path.of("src/main/java/CrossedWords.java"));
+        int methods = 0;
+        for (int start = 0; start < lines.size(); start++) {
+            Matcher m = Pattern.compile("( {4}| {8})(\\w+ )*\\w+\\([^()]*\\) \\{").matcher(lines.get(start));
+            if (!m.matches() || lines.get(start).trim().matches("(if|for|switch) .*")) continue;
+            methods++;
+            int end = start;
+            while (!lines.get(end).equals(m.group(1) + "}")) end++;
+            due(lines.get(start).trim() + " has forty lines at most", end - start <= 40, true);
+        }
+        due("methods are found", methods > 60, true);
+    }
+
     /** All calls of a run live in one room: after the constructor nothing is made any more. */
     private static void room() {
         com.sun.management.ThreadMXBean bean = (com.sun.management.ThreadMXBean) ManagementFactory.getThreadMXBean();
+        allCalls(new CrossedWords());
         CrossedWords x = new CrossedWords();
-        allCalls(x);
         long thread = Thread.currentThread().getId();
         long before = bean.getThreadAllocatedBytes(thread);
-        for (int i = 0; i < 50; i++) allCalls(x);
+        for (int i = 0; i < 10; i++) allCalls(x);
         long bytes = bean.getThreadAllocatedBytes(thread) - before;
-        due("calls make nothing: fewer bytes than 4096 for " + 50 * 40 + " calls", bytes < 4096, true);
+        due("calls make nothing: fewer bytes than 4096 for " + 10 * 44 + " calls", bytes < 4096, true);
     }
 
     private static int allCalls(CrossedWords x) {
