@@ -353,6 +353,12 @@ public final class TermsEdgeTest extends Checks {
             due("slot(" + slot + ", 5)", y.slot(slot, 5), 0);
         }
         due("told(10)", y.told(10), 255);
+        // And 25 here, the most that was found.
+        CrossedWords z = grid(OPEN, "bbfa", "ffec", "edce", "cfef", "dede", "dddd", "cbfa", "dbdd", "ddbb", "aaac", "bdbb", "eaef",
+            "fccc", "abcc", "bbad", "eebe");
+        for (int slot = 0; slot < 8; slot++) due("25 rounds, slot(" + slot + ", 5)", z.slot(slot, 5), 0);
+        due("25 rounds, told(10)", z.told(10), 255);
+        for (int cell = 0; cell < 16; cell++) due("25 rounds, cell(" + cell + ", 3)", z.cell(cell, 3), 0);
     }
 
     private static void leftToCross() {
